@@ -271,14 +271,16 @@ public final class TuneToEachHouse {
         if (!now.houses.isSong(song) || !now.houses.isDoor(from)) {
             return UNKNOWN;
         }
-        return rounds.greatestWorth(now.houses, song, from);
+        tune.takeAnthem(now.houses, song);
+        return rounds.greatestWorth(now.houses, tune, from);
     }
 
     public int bestAt(int song, int from, int i) {
         if (!now.houses.isSong(song) || !now.houses.isDoor(from)) {
             return UNKNOWN;
         }
-        return rounds.doorOfBest(now.houses, song, from, i);
+        tune.takeAnthem(now.houses, song);
+        return rounds.doorOfBest(now.houses, tune, from, i);
     }
 
     public int hush(int song, int from) {
@@ -529,12 +531,6 @@ public final class TuneToEachHouse {
             return isSong(song) ? lengths[song] : 0;
         }
 
-        /** The sign for a place of a way along which the song is sung again and again. */
-        int signAgain(int song, int place) {
-            int length = lengthOf(song);
-            return length > 0 ? signOf(song, place % length) : NONE;
-        }
-
         boolean sounds(int door, int sign) {
             return isDoor(door) && (sign == ANY || sign == notes[door]);
         }
@@ -689,22 +685,33 @@ public final class TuneToEachHouse {
 
     /** A song, or what is heard: for each place the set of doors at which a way may be there. */
     private static final class Tune {
+        private static final int MOST_PLACES = 12;
+
         private int length;
-        private final int[] fits = new int[MOST_HEARD];
+        private final int[] fits = new int[MOST_PLACES];
         /** For each place the doors that would fit no more if they were still. */
-        private final int[] hushable = new int[MOST_HEARD];
-        private final long[] counts = new long[MOST_HEARD * MOST_DOORS];
+        private final int[] hushable = new int[MOST_PLACES];
+        private final long[] counts = new long[MOST_PLACES * MOST_DOORS];
 
         void takeSong(Town town, int song) {
             length = town.lengthOf(song);
-            for (int i = 0; i < length && i < MOST_HEARD; i++) {
+            for (int i = 0; i < length && i < MOST_PLACES; i++) {
                 take(town, i, town.signOf(song, i));
+            }
+        }
+
+        /** The song again and again, a sign for each door of the town. */
+        void takeAnthem(Town town, int song) {
+            int signs = town.lengthOf(song);
+            length = town.doors;
+            for (int i = 0; i < length && i < MOST_PLACES; i++) {
+                take(town, i, signs > 0 ? town.signOf(song, i % signs) : NONE);
             }
         }
 
         void takeHeard(Town town, Ear ear) {
             length = ear.length;
-            for (int i = 0; i < length && i < MOST_HEARD; i++) {
+            for (int i = 0; i < length && i < MOST_PLACES; i++) {
                 take(town, i, ear.notes[i]);
             }
         }
@@ -715,7 +722,11 @@ public final class TuneToEachHouse {
         }
 
         int fitsAt(int place) {
-            return place >= 0 && place < length && place < MOST_HEARD ? fits[place] : 0;
+            return place >= 0 && place < length && place < MOST_PLACES ? fits[place] : 0;
+        }
+
+        int worthAt(int place, int door) {
+            return fitsAt(place) >> door & 1;
         }
 
         /** Behind its ends a tune asks for nothing. */
@@ -766,7 +777,7 @@ public final class TuneToEachHouse {
 
         boolean canBeSung(Town town, int from, int still) {
             int doors = from;
-            for (int place = 0; place < length && place < MOST_HEARD; place++) {
+            for (int place = 0; place < length && place < MOST_PLACES; place++) {
                 doors &= fits[place] & ~(hushable[place] & still);
                 if (doors == 0) {
                     return false;
@@ -783,7 +794,7 @@ public final class TuneToEachHouse {
             for (int door = 0; door < town.doors; door++) {
                 counts[door] = has(fitsAt(0) & from, door) ? 1 : 0;
             }
-            for (int place = 1; place < length && place < MOST_HEARD; place++) {
+            for (int place = 1; place < length && place < MOST_PLACES; place++) {
                 countPlace(town, place);
             }
             return countedAt(town, length - 1, to);
@@ -799,7 +810,7 @@ public final class TuneToEachHouse {
 
         private long countedAt(Town town, int place, int doors) {
             long sum = 0;
-            for (int door = 0; door < town.doors && place >= 0 && place < MOST_HEARD; door++) {
+            for (int door = 0; door < town.doors && place >= 0 && place < MOST_PLACES; door++) {
                 if (has(doors, door)) {
                     sum += counts[place * MOST_DOORS + door];
                 }
@@ -1060,91 +1071,76 @@ public final class TuneToEachHouse {
     /** Ways through each door just once. */
     private static final class Rounds {
         private static final int GAIN_BITS = 4;
+        private static final int NO_WAY = 1;
+        private static final int LEAST_GAIN = 2;
 
         /**
          * For each set of doors that are still to come, four bits for each door that one may stand
-         * at: 0 if no way goes through them all, else 1 and the greatest worth of their places.
+         * at: 0 not known yet, NO_WAY through them all, or LEAST_GAIN and their greatest worth.
          */
         private final long[] gains = new long[1 << MOST_DOORS];
 
-        int greatestWorth(Town town, int song, int from) {
-            int others = town.allDoors() & ~(1 << from);
-            fillGains(town, song, others);
-            int gain = gainOf(others, from);
-            return gain == 0 ? NONE : gain - 1 + worthAt(town, song, from, 0);
+        int greatestWorth(Town town, Tune anthem, int from) {
+            Arrays.fill(gains, 0);
+            int gain = gainOf(town, anthem, gains, from, othersThan(town, from));
+            return gain == NO_WAY ? NONE : gain - LEAST_GAIN + anthem.worthAt(0, from);
         }
 
-        int doorOfBest(Town town, int song, int from, int i) {
-            int rest = town.allDoors() & ~(1 << from);
-            fillGains(town, song, rest);
-            if (i < 0 || i >= town.doors || gainOf(rest, from) == 0) {
+        int doorOfBest(Town town, Tune anthem, int from, int i) {
+            Arrays.fill(gains, 0);
+            int rest = othersThan(town, from);
+            if (i < 0 || i >= town.doors || gainOf(town, anthem, gains, from, rest) == NO_WAY) {
                 return NONE;
             }
             int door = from;
             for (int place = 1; place <= i && door != NONE; place++) {
-                door = nextOfBest(town, song, door, rest);
-                rest &= door == NONE ? rest : ~(1 << door);
+                door = nextOfBest(town, anthem, door, rest);
+                rest &= ~(1 << door);
             }
             return door;
         }
 
-        private int nextOfBest(Town town, int song, int door, int rest) {
-            int place = town.doors - Integer.bitCount(rest);
-            int wanted = gainOf(rest, door);
+        private static int othersThan(Town town, int door) {
+            return town.allDoors() & ~(1 << door);
+        }
+
+        private int nextOfBest(Town town, Tune anthem, int door, int rest) {
+            int wanted = gainOf(town, anthem, gains, door, rest);
             int near = town.joinedTo(door) & rest;
             for (int next = 0; next < town.doors; next++) {
-                int gain = has(near, next) ? gainOf(rest & ~(1 << next), next) : 0;
-                if (gain != 0 && gain + worthAt(town, song, next, place) == wanted) {
+                if (has(near, next) && gainThrough(town, anthem, gains, next, rest) == wanted) {
                     return next;
                 }
             }
             return NONE;
         }
 
-        private static int worthAt(Town town, int song, int door, int place) {
-            return town.sounds(door, town.signAgain(song, place)) ? 1 : 0;
-        }
-
-        /** Fills the gains for all sets of some doors, each behind the sets that it builds on. */
-        private void fillGains(Town town, int song, int others) {
-            gains[0] = raise(0, town.allDoors(), 1);
-            int rest = 0;
-            for (int i = 1; i < gains.length && rest != others; i++) {
-                // counts up through the sets of the others alone, as numbers
-                rest = rest - others & others;
-                fillGainsOf(town, song, rest);
+        /** The rest loses a door at each level, so there are never more levels than doors. */
+        private static int gainOf(Town town, Tune anthem, long[] gains, int door, int rest) {
+            if (rest <= 0 || rest >= gains.length) {
+                return LEAST_GAIN;
             }
+            int shift = GAIN_BITS * door;
+            int greatest = (int) (gains[rest] >> shift) & (1 << GAIN_BITS) - 1;
+            if (greatest != 0) {
+                return greatest;
+            }
+            greatest = NO_WAY;
+            int near = town.joinedTo(door) & rest;
+            for (int next = 0; next < town.doors && near >> next != 0; next++) {
+                if (has(near, next)) {
+                    greatest = Math.max(greatest, gainThrough(town, anthem, gains, next, rest));
+                }
+            }
+            gains[rest] |= (long) greatest << shift;
+            return greatest;
         }
 
-        private void fillGainsOf(Town town, int song, int rest) {
+        /** The gain if the way goes on to a door of the rest. */
+        private static int gainThrough(Town town, Tune anthem, long[] gains, int next, int rest) {
+            int gain = gainOf(town, anthem, gains, next, rest & ~(1 << next));
             int place = town.doors - Integer.bitCount(rest);
-            int sign = town.signAgain(song, place);
-            long row = 0;
-            for (int next = 0; next < town.doors && rest >> next != 0; next++) {
-                int gain = has(rest, next) ? gainOf(rest & ~(1 << next), next) : 0;
-                if (gain != 0) {
-                    gain += town.sounds(next, sign) ? 1 : 0;
-                    row = raise(row, town.joinedTo(next) & ~rest, gain);
-                }
-            }
-            gains[rest] = row;
-        }
-
-        private int gainOf(int rest, int door) {
-            return (int) (gains[rest] >> GAIN_BITS * door) & (1 << GAIN_BITS) - 1;
-        }
-
-        /** The row with the gain for each of the doors that have less in it. */
-        private static long raise(long row, int doors, int gain) {
-            long raised = row;
-            for (int door = 0; door < MOST_DOORS && doors >> door != 0; door++) {
-                int shift = GAIN_BITS * door;
-                long own = raised >> shift & (1 << GAIN_BITS) - 1;
-                if (has(doors, door) && own < gain) {
-                    raised += gain - own << shift;
-                }
-            }
-            return raised;
+            return gain == NO_WAY ? NO_WAY : gain + anthem.worthAt(place, next);
         }
     }
 }
