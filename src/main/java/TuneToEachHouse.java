@@ -215,12 +215,7 @@ public final class TuneToEachHouse {
         }
         tune.takeSong(now.houses, song);
         otherTune.takeSong(now.houses, other);
-        int least = Meeting.fewestDoors(now.houses, tune, otherTune);
-        int turned = Meeting.fewestDoors(now.houses, otherTune, tune);
-        if (least == NONE || turned == NONE) {
-            return Math.max(least, turned);
-        }
-        return Math.min(least, turned);
+        return Meeting.fewestDoors(now.houses, tune, otherTune);
     }
 
     // ---- the ear
@@ -819,29 +814,32 @@ public final class TuneToEachHouse {
         }
     }
 
-    /** Ways that sound two songs: one from the way's first door on, the other some places behind. */
+    /** Ways that sound two songs: the other one begins a shift of places behind the one, or ahead. */
     private static final class Meeting {
-        static int fewestDoors(Town town, Tune ahead, Tune behind) {
+        static int fewestDoors(Town town, Tune one, Tune other) {
             int least = NONE;
             // between two songs that do not touch, no more doors are of use than the town has
-            for (int shift = 0; shift <= ahead.length + MOST_DOORS; shift++) {
-                int doors = Math.max(ahead.length, shift + behind.length);
-                boolean isFewer = least == NONE || doors < least;
-                if (isFewer && canSoundBoth(town, ahead, behind, shift)) {
-                    least = doors;
+            int most = one.length + MOST_DOORS;
+            for (int shift = -other.length - MOST_DOORS; shift <= most; shift++) {
+                int from = Math.min(0, shift);
+                int to = Math.max(one.length, shift + other.length);
+                boolean isFewer = least == NONE || to - from < least;
+                if (isFewer && canSoundBoth(town, one, other, shift)) {
+                    least = to - from;
                 }
             }
             return least;
         }
 
-        private static boolean canSoundBoth(Town town, Tune ahead, Tune behind, int shift) {
-            int end = Math.max(ahead.length, shift + behind.length);
+        private static boolean canSoundBoth(Town town, Tune one, Tune other, int shift) {
+            int from = Math.min(0, shift);
+            int to = Math.max(one.length, shift + other.length);
             int doors = town.allDoors();
-            for (int place = 0; place < end && doors != 0; place++) {
-                if (place > 0) {
+            for (int place = from; place < to && doors != 0; place++) {
+                if (place > from) {
                     doors = town.around(doors);
                 }
-                doors &= ahead.fitsOrAny(town, place) & behind.fitsOrAny(town, place - shift);
+                doors &= one.fitsOrAny(town, place) & other.fitsOrAny(town, place - shift);
             }
             return doors != 0;
         }

@@ -48,6 +48,9 @@ public final class EarTest {
         Check.due("mayBe(4)", x.mayBe(4), OUTSIDE);
         Check.due("mayBe(-1)", x.mayBe(-1), OUTSIDE);
         Check.due("mayBe(max)", x.mayBe(Integer.MAX_VALUE), OUTSIDE);
+        Check.hear(x, 2, 8, 8);
+        Check.due("mayBe(1) of c..", x.mayBe(1), 0b0100);
+        Check.due("mayBe(2) of c..", x.mayBe(2), 0b1010);
         Check.hear(x, 0, 2, 2);
         Check.due("mayBe(0) of what no one sounds", x.mayBe(0), 0);
         Check.due("fitting() of what no one sounds", x.fitting(), 0);

@@ -45,6 +45,11 @@ public final class RoundsTest {
         Check.due("best acb", y.best(0, 0), 3);
         bestAre(y, 0, 0, 0, 2, 1);
         bestAre(y, 1, 0, 0, 1, 2);
+        TuneToEachHouse w = Check.townOf("DabcW01W12Scba");
+        Check.due("best cba, door 0 is the last", w.best(0, 2), 3);
+        bestAre(w, 0, 2, 2, 1, 0);
+        w.road(0, 1, false);
+        Check.due("best cba, no street to door 0", w.best(0, 2), NONE);
         TuneToEachHouse z = Check.townOf("DaSaSb");
         Check.due("best of one door", z.best(0, 0), 1);
         Check.due("best of one door, worth none", z.best(1, 0), 0);

@@ -11,6 +11,7 @@ public final class SongsTest {
         begun();
         rounds();
         firstRound();
+        farRound();
         safeWays();
         manyWays();
         bothSongs();
@@ -106,6 +107,28 @@ public final class SongsTest {
         Check.due("round aab from 0 to 3", y.round(0, 0, 3), NONE);
         Check.due("round aab from 2 to 3", y.round(0, 2, 3), 1);
         Check.due("round ab from 2 to 3", y.round(1, 2, 3), NONE);
+        TuneToEachHouse z = Check.townOf("DabcW01W12Sa.cSabc");
+        z.let(1, 7);
+        Check.due("a point takes a still door", z.round(0, 0, 2), NONE);
+        Check.due("a point takes a still door, safe", z.safe(0, 0, 2, 2), 0);
+        Check.due("a letter does not", z.round(1, 0, 2), 2);
+    }
+
+    /** Six doors that are all joined, and a row of six more behind them. */
+    private static void farRound() {
+        TuneToEachHouse x = Check.townOf("DaaaaaabbbbbbW56W67W78W89W9aWabSaabSg");
+        for (int one = 0; one < 6; one++) {
+            for (int other = 0; other < one; other++) {
+                x.road(one, other, true);
+            }
+        }
+        int[] way = {0, 5, 6, 7, 8, 9, 10, 11};
+        Check.due("a far round", x.round(1, 0, 11), 7);
+        for (int i = 0; i < way.length; i++) {
+            Check.due("a far round, door " + i, x.roundAt(1, 0, 11, i), way[i]);
+        }
+        Check.due("a far round aab", x.round(0, 0, 11), NONE);
+        Check.due("a far round aab from 5", x.round(0, 5, 11), 6);
     }
 
     private static void safeWays() {
@@ -160,6 +183,9 @@ public final class SongsTest {
         Check.due("both bb, bb", x.both(3, 3), NONE);
         Check.due("both(0, 4)", x.both(0, 4), UNKNOWN);
         Check.due("both(-1, 0)", x.both(-1, 0), UNKNOWN);
+        TuneToEachHouse z = Check.townOf("DabSaS.Sb");
+        Check.due("both at a door with no street", z.both(0, 1), 1);
+        Check.due("both at doors with no street", z.both(0, 2), NONE);
         // twelve doors in a row, a song at each end
         TuneToEachHouse y = Check.townOf("DabccccccccdeW01W12W23W34W45W56W67W78W89W9aWabSbaSdeSbSb.");
         Check.due("both at the ends", y.both(0, 1), 13);

@@ -249,5 +249,6 @@ public final class TownTest {
         Check.due("what is heard stands", x.count(5), 1);
         Check.due("spring() again", x.spring(), 1);
         Check.due("note(1) still", x.note(1), 7);
+        Check.due("spring() of one door", new TuneToEachHouse().spring(), 0);
     }
 }
