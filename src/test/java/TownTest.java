@@ -105,6 +105,9 @@ public final class TownTest {
         fault("DabcdefgabcdeWbb", 15);
         fault("DabcdefgabcdeWc", 14);
         fault("DabcdefgabcdeWA", 14);
+        fault("DabcdefgabcdeW:", 14);
+        fault("DabcdefgabcdeW0;", 15);
+        fault("DabcdefgabcdeW/", 14);
         fault("DabcdefgabcWa", 12);
         fault("DabcdefgabW9", 11);
     }
