@@ -2,15 +2,25 @@
 final class Check {
     private static int wrong = 0;
     private static int seen = 0;
+    private static String about = "";
 
     private Check() {
+    }
+
+    /** What the next checks are about; it stands ahead of each answer that is not the one due. */
+    static void about(String what) {
+        about = what.isEmpty() ? "" : what + ": ";
+    }
+
+    static int seen() {
+        return seen;
     }
 
     static void due(String call, long got, long want) {
         seen++;
         if (got != want) {
             wrong++;
-            System.out.println(call + " answered " + got + ", due is " + want);
+            System.out.println(about + call + " answered " + got + ", due is " + want);
         }
     }
 
