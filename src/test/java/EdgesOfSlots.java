@@ -1,6 +1,6 @@
 /** Edges of SLOTS and of what is counted: promises 31 to 33; and of how long an object is used. */
 final class EdgesOfSlots {
-    private static final int UNKNOWN = -1, OUTSIDE = -2, STATE = -3, NONE = -9;
+    private static final int UNKNOWN = -1, OUTSIDE = -2, STATE = -3, FULL = -4, NONE = -9;
     private static final int TERMS = Sentences.TERMS;
 
     private EdgesOfSlots() {
@@ -67,6 +67,8 @@ final class EdgesOfSlots {
             fillOtherwise(x);
             Check.due("again", x.again(slot), 12);
             isFull(x);
+            Check.due("go(0), on from a full walk", x.go(0), FULL);
+            Check.due("hear(0), on from a full ear", x.hear(0), FULL);
             Check.due("THE TEXT is not kept", x.count(0), 8);
             Check.due("THE TEXT is as it was", x.town(), 2);
         }
